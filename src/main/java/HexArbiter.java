@@ -20,6 +20,7 @@ public final class HexArbiter {
     private static final int LAST_CELLS = 6;
     private static final int MOST_SWEEPS = 100;
     private static final int MOST_FILLINGS = 100;
+    private static final int MOST_X = 2147483647;
     private static final int BOTH_EDGES = 3;
 
     private final Grid grid;
@@ -330,14 +331,14 @@ public final class HexArbiter {
     }
 
     public int filled(int x) throws IllegalArgumentException {
-        requireRange(x, 0, Integer.MAX_VALUE);
+        requireRange(x, 0, MOST_X);
         filling.begin(x);
         return filling.next(position.stones);
     }
 
     public int fillings(int side, int x, int many) throws IllegalArgumentException {
         requireSide(side);
-        requireRange(x, 0, Integer.MAX_VALUE);
+        requireRange(x, 0, MOST_X);
         requireRange(many, 1, MOST_FILLINGS);
         filling.begin(x);
         int joined = 0;
@@ -350,7 +351,7 @@ public final class HexArbiter {
     }
 
     public int idle(int x) throws IllegalArgumentException {
-        requireRange(x, 0, Integer.MAX_VALUE);
+        requireRange(x, 0, MOST_X);
         filling.begin(x);
         int winner = filling.next(position.stones);
         return filling.countIdle(position.stones, winner);
@@ -881,7 +882,7 @@ public final class HexArbiter {
         }
 
         void add(int one) {
-            if (length < bytes.length) {
+            if (length >= 0 && length < bytes.length) {
                 bytes[length] = one;
                 length++;
             }
@@ -1477,7 +1478,7 @@ public final class HexArbiter {
 
         private int nextStone() {
             // what the wrap-around of int cuts off is beyond the modulus
-            x = (FACTOR * x + SUMMAND) & Integer.MAX_VALUE;
+            x = (FACTOR * x + SUMMAND) & MOST_X;
             return x / 65536 % 2 == 0 ? RED : BLUE;
         }
 

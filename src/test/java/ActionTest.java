@@ -258,20 +258,39 @@ public final class ActionTest {
         CHECK.same("no action", 0, several.size(9));
     }
 
+    /** A ladder: blue has to block below each time, and red to cut blue off above it. */
     private static void longRow() {
-        String text = "board 5; red c1 c2 b3 b4; blue a5 b5 c4 d3";
+        String text = "board 5; red c1 b3 a4; blue b2 e2 a3 c3 d3; move c2";
+        rowIs(text, 81, -1, "..r../.br.b/brbb./rrrr./bbbb.", 7, 20, 16, 21, 17, 22, 18, 23);
+        rowIs(text, 7, -1, "..r../.br.b/brbb./rrrr./bbbb.", 7, 20, 16, 21, 17, 22, 18, 23);
+        rowIs(text, 3, -1, "..r../.br.b/brbb./rr.../bb...", 7, 20, 16, 21);
+        // red's stone at the end of the ladder makes two threats of the last one
+        String helped = text.replace("red c1", "red e4 c1");
+        rowIs(helped, 81, -1, "..r../.br.b/brbb./rrrrr/bbb..", 7, 20, 16, 21, 17, 22, 18);
+        // blue's stone there makes two of blue's
+        rowIs(text.replace("blue b2", "blue e4 b2"), 81, -1, "..r../.br.b/brbb./rrr.b/bbb..",
+            7, 20, 16, 21, 17, 22);
+        // with a row of stones ahead, blue's first block makes two at once
+        rowIs(text.replace("blue b2", "blue c5 d5 e5 b2"), 81, -1, "..r../.br.b/brbb./r..../b.bbb", 7, 20);
         HexArbiter arbiter = Check.loaded("board 2; red a1; blue b1; turn blue");
         CHECK.same("blue joins", 1, arbiter.forcedWinner());
-        HexArbiter first = Check.loaded(text);
-        HexArbiter second = Check.loaded(text);
-        int all = first.playForced(81);
-        int done = 0;
-        while (second.size(6) == -1 && second.forced() != -1) {
-            CHECK.same("just one", 1, second.playForced(1));
-            done++;
+    }
+
+    private static void rowIs(String text, int most, int winner, String board, int... moves) {
+        HexArbiter arbiter = Check.loaded(text);
+        if (most == 81) {
+            CHECK.same(text + ": forcedRow()", moves.length - 1, arbiter.forcedRow());
+            CHECK.same(text + ": forcedWinner()", winner, arbiter.forcedWinner());
         }
-        CHECK.same("one by one", done, all);
-        CHECK.same("the same board", Check.board(second), Check.board(first));
+        CHECK.same(text + ": playForced(" + most + ")", moves.length - 1, arbiter.playForced(most));
+        CHECK.same(text + ": board", board, Check.board(arbiter));
+        CHECK.same(text + ": winner", winner, arbiter.size(6));
+        CHECK.same(text + ": turn", moves.length % 2, arbiter.size(5));
+        for (int index = 0; index < moves.length; index++) {
+            CHECK.same(text + ": move " + index, moves[index], arbiter.moveAt(index));
+        }
+        CHECK.same(text + ": one action", 0, arbiter.undo());
+        CHECK.same(text + ": taken back", Check.board(Check.loaded(text)), Check.board(arbiter));
     }
 
     /** Promise 50. */
