@@ -220,6 +220,10 @@ public final class ActionTest {
         CHECK.same("taken back", ".rb/r../..b", Check.board(arbiter));
         CHECK.same("the moves too", 3, arbiter.moveAt(0));
         CHECK.same("the turn too", 0, arbiter.size(5));
+        HexArbiter corners = Check.loaded("board 3; red a1 b2; blue c3 c1");
+        corners.turnOver();
+        CHECK.same("cells that stay", "b../.b./r.r", Check.board(corners));
+        CHECK.same("nobody has given up", -1, corners.size(8));
         HexArbiter swapping = Check.loaded("board 4 swap; move b1");
         swapping.turnOver();
         CHECK.same("swap() is allowed still", 1, swapping.swap());

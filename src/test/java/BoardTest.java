@@ -119,6 +119,8 @@ public final class BoardTest {
         groupIs(arbiter, 7, 3, 2, 2, 2);
         arbiter.put(12, 0);
         groupIs(arbiter, 5, 2, 4, 5, 3);
+        groupIs(Check.loaded("board 2; red a2"), 2, 2, 1, 3, 2);
+        groupIs(Check.loaded("board 2; blue b2 a1"), 0, 0, 1, 2, 1);
         for (int what : new int[] {-1, 4, Integer.MIN_VALUE, Integer.MAX_VALUE}) {
             CHECK.illegal("group of a stone", () -> arbiter.group(0, what));
             CHECK.illegal("group of a free cell", () -> arbiter.group(9, what));
@@ -142,6 +144,8 @@ public final class BoardTest {
         CHECK.same("largest(1), the least of two", 3, arbiter.largest(1));
         arbiter.put(14, 1);
         CHECK.same("largest(1), not the least one", 12, arbiter.largest(1));
+        CHECK.same("largest(0) of a single stone", 8, Check.loaded("board 3; red c3").largest(0));
+        CHECK.same("largest(0) at the first cell", 0, Check.loaded("board 3; red a1 c3").largest(0));
         HexArbiter empty = new HexArbiter();
         CHECK.same("no groups", 0, empty.groups(1));
         CHECK.same("no largest one", -1, empty.largest(0));

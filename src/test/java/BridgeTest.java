@@ -100,6 +100,17 @@ public final class BridgeTest {
         bridgeIs(arbiter, 0, -1, -1, -1, -1, -1, -1);
         bridgeIs(arbiter, 0, Integer.MAX_VALUE, -1, -1, -1, -1, -1);
         bridgeIs(arbiter, 1, 0, -1, -1, -1, -1, -1);
+        // the first carrier of a bridge that counts is the first one of a later bridge, too
+        HexArbiter first = Check.loaded("board 5; red d2 b3 c4; blue c2");
+        bridgeIs(first, 0, 0, 8, 17, 12, 13, 1);
+        bridgeIs(first, 0, 1, 8, -10, 3, 4, 1);
+        bridgeIs(first, 0, 2, 11, 17, 12, 16, 0);
+        bridgeIs(first, 0, 3, 17, -11, 21, 22, 1);
+        // the bridge to a cell comes ahead of that to the edge
+        HexArbiter corner = Check.loaded("board 5; red a1 b2");
+        bridgeIs(corner, 0, 0, 0, 6, 1, 5, 1);
+        bridgeIs(corner, 0, 1, 6, -10, 1, 2, 0);
+        bridgeIs(corner, 0, 2, -1, -1, -1, -1, -1);
         arbiter.turnOver();
         bridgeIs(arbiter, 1, 0, 7, 13, 8, 12, 1);
         bridgeIs(arbiter, 1, 1, 7, 16, 11, 12, 0);
@@ -189,6 +200,8 @@ public final class BridgeTest {
         CHECK.same("blue", true, Check.loaded("board 3; blue b2").isSafe(1));
         CHECK.same("a cell and a bridge", true, Check.loaded(RING).isSafe(0));
         CHECK.same("joined", true, Check.loaded("board 2; red a1 a2").isSafe(0));
+        CHECK.same("a bridge between two edges", true, Check.loaded("board 4; red c1 b3 b4").isSafe(0));
+        CHECK.same("that bridge broken", false, Check.loaded("board 4; red c1 b3 b4; blue b2").isSafe(0));
         CHECK.same("of two chains", false, Check.loaded(CROSSING).isSafe(0));
         CHECK.same("nothing", false, new HexArbiter().isSafe(0));
         CHECK.same("a carrier taken", false, Check.loaded("board 3; red b2; blue a3").isSafe(0));

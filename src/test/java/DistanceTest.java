@@ -46,6 +46,10 @@ public final class DistanceTest {
         throughIs("board 3; red b1 b3", 0, 2, 1, 2, 2, 1, 2, 2, 1, 2);
         throughIs("board 3; blue a2 b2", 0, 5, 4, 3, -1, -1, 3, 4, 3, 3);
         throughIs("board 3; blue a2 b2 c2", 0, -1, -1, -1, -1, -1, -1, -1, -1, -1);
+        throughIs("board 4; blue a3 b3 c3 d3", 0,
+            -1, -1, -1, -1, -1, -1, -1, -1, -1, -1, -1, -1, -1, -1, -1, -1);
+        throughIs("board 4; red b1 b2 b3 b4", 1,
+            -1, -1, -1, -1, -1, -1, -1, -1, -1, -1, -1, -1, -1, -1, -1, -1);
         // a corner behind a wall can be walked to and back again
         throughIs("board 3; blue b1", 0, 3, -1, 3, 3, 3, 3, 3, 3, 3);
         // this one can't be reached at all

@@ -27,6 +27,12 @@ public final class SolvingTest {
         solvedIs("board 3; red b1 b2; blue a1", 0, 6, 2);
         solvedIs("board 3; blue a1 a2 c2; red c3 c1; turn red", 0, 1, 4);
         solvedIs("board 3; blue a1 a2 c2; red c3 c1; turn blue", 1, 3, 4);
+        solvedIs("board 2; red a1 b2; blue b1; turn blue", 1, 1, 2);
+        solvedIs("board 2; red a1 b2; blue b1; turn red", 0, 1, 2);
+        // three bridges of red, all of which it needs: the very last of the 6 cells decides
+        String bridges = "board 5; red d2 c4; blue a1 b1 c1 a2 b2 c2 e2 a3 b3 e3 a4 b4 d4 e4 a5 d5 e5";
+        solvedIs(bridges + "; turn blue", 0, 0, -1);
+        solvedIs(bridges + "; turn red", 0, 6, 3);
     }
 
     private static void solvedIs(String text, int side, int many, int best) {
@@ -49,6 +55,17 @@ public final class SolvingTest {
         CHECK.same("given up: solved()", 1, arbiter.solved());
         CHECK.same("given up: goodMoves()", 0, arbiter.goodMoves());
         CHECK.same("given up: bestMove()", -1, arbiter.bestMove());
+        HexArbiter asked = Check.loaded("board 2; move b1 a2");
+        CHECK.same("bestMove() asked first", 3, asked.bestMove());
+        asked.put(2, -1);
+        CHECK.same("goodMoves() asked behind a change", 3, asked.goodMoves());
+        CHECK.same("bestMove() asked behind a change", 0, asked.bestMove());
+        asked.put(1, 1);
+        asked.put(2, 0);
+        CHECK.same("goodMoves() asked behind another one", 1, asked.goodMoves());
+        HexArbiter many = Check.loaded("board 3; turn blue");
+        CHECK.same("9 free cells: bestMove()", -1, many.bestMove());
+        CHECK.same("9 free cells: goodMoves()", -1, many.goodMoves());
         HexArbiter joined = Check.loaded("board 9; blue a1 b1 c1 d1 e1 f1 g1 h1 i1");
         CHECK.same("joined: solved()", 1, joined.solved());
         CHECK.same("joined: goodMoves()", 0, joined.goodMoves());
@@ -88,6 +105,8 @@ public final class SolvingTest {
             CHECK.same("fillings(0, 1, " + many + ")", red[many - 1], arbiter.fillings(0, 1, many));
             CHECK.same("fillings(1, 1, " + many + ")", many - red[many - 1], arbiter.fillings(1, 1, many));
         }
+        CHECK.same("from the least x", 1, new HexArbiter().fillings(0, 0, 1));
+        CHECK.same("from the largest x", 1, new HexArbiter().fillings(1, Integer.MAX_VALUE, 1));
         int sum = arbiter.fillings(0, 123456789, 100) + arbiter.fillings(1, 123456789, 100);
         CHECK.same("both sides of 100", 100, sum);
         CHECK.same("the same once more", arbiter.fillings(0, 5, 100), arbiter.fillings(0, 5, 100));

@@ -82,6 +82,12 @@ public final class StartAndLoadTest {
         CHECK.same("the second move of the text", 2, arbiter.moveAt(1));
         CHECK.same("swap by the text", 1, swapsAfter("board 3 swap; move b1"));
         CHECK.same("no swap by the text", 0, swapsAfter("board 3; move b1"));
+        Check.load(arbiter, "board 3; move b1");
+        CHECK.same("no swap behind a text with one", 0, arbiter.size(7));
+        Check.load(arbiter, "board 3; turn blue; move b1");
+        Check.load(arbiter, "board 3; red b1");
+        CHECK.same("the turn is red's at first", 0, arbiter.size(5));
+        CHECK.same("no moves behind a text with one", -1, arbiter.moveAt(0));
     }
 
     private static int swapsAfter(String text) {
@@ -106,6 +112,10 @@ public final class StartAndLoadTest {
         wrong("   ^", 1, 0);
         wrong("^boar 3", 1, 0);
         wrong("^boards 3", 1, 0);
+        wrong("^coard 3", 1, 0);
+        wrong("^boarb 3", 1, 0);
+        wrong("board 3; ^bed a1", 1, 1);
+        wrong("board 3; turn ^bed", 1, 1);
         wrong("^Board 3", 1, 0);
         wrong("^3", 1, 0);
         wrong("^;board 3", 1, 0);
@@ -176,6 +186,8 @@ public final class StartAndLoadTest {
         wrong("board 3; red a1; blue b1 ^a1 x", 3, 2);
         wrong("board 3; move a1 b1 ^a 1", 3, 1);
         wrong("board 3; move b2; red ^b2", 3, 2);
+        wrong("board 9;blue " + everyCell() + "^e5", 3, 1);
+        wrong("board 9;blue " + everyCell() + ";move ^e5", 4, 2);
         wrong("board 2; red a1 a2; move ^b1", 4, 2);
         wrong("board 2; blue a1 b1; move ^b2", 4, 2);
         wrong("board 2; move a1 b1 a2 ^b2", 4, 1);
@@ -184,6 +196,14 @@ public final class StartAndLoadTest {
         wrong("board 2; red a1 a2; move ^b", 4, 2);
         wrong("board 2; red a1 a2; move ^a1", 4, 2);
         wrong("board 2; red a1 a2; move ^c1", 2, 2);
+    }
+
+    private static String everyCell() {
+        StringBuilder cells = new StringBuilder();
+        for (int cell = 0; cell < 81; cell++) {
+            cells.append((char) ('a' + cell % 9)).append(1 + cell / 9);
+        }
+        return cells.toString();
     }
 
     private static void wrong(String marked, int kind, int statement) {

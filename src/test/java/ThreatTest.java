@@ -17,6 +17,9 @@ public final class ThreatTest {
         threatsAre("board 3; blue b1 b2 a3", 1, 2, 5);
         threatsAre("board 4; red a1 a2 a4", 0, 8);
         threatsAre("board 5; red a1 b2 b3; red d3 d4 d5", 0);
+        threatsAre("board 2; red a2", 0, 0, 1);
+        threatsAre("board 2; blue b2", 1, 2);
+        threatsAre("board 2; blue b1", 1, 0, 2);
         threatsAre("board 3; red b1 b2 b3", 0);
         threatsAre("board 3; red b1 b2 b3; blue a1 a2", 1);
         threatsAre("board 2; red a1; blue b1", 0, 2);
@@ -45,6 +48,7 @@ public final class ThreatTest {
     /** Promise 21. */
     private static void forcedByThreats() {
         forcedIs("nothing", "board 3", -1);
+        forcedIs("the first cell of the board", "board 3; red a2 a3", 0);
         forcedIs("its own lowest one", "board 3; red b1 b2", 6);
         forcedIs("one of both sides", "board 2; red a1; blue b1; turn blue", 2);
         forcedIs("the other's only one", "board 3; red a1 a2; turn blue", 6);
