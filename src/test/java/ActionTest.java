@@ -335,10 +335,7 @@ public final class ActionTest {
             CHECK.isTrue("going back", arbiter.size(9) > 0);
         }
         CHECK.same("the board", ".../r../...", Check.board(arbiter));
-        int[] sizes = {3, 1, 0, 8, 1, 1, -1, 1, -1, 0};
-        for (int what = 0; what < sizes.length; what++) {
-            CHECK.same("size(" + what + ")", sizes[what], arbiter.size(what));
-        }
+        CHECK.sizes("all taken back", arbiter, 3, 1, 0, 8, 1, 1, -1, 1, -1, 0);
     }
 
     private static void whatIsNoAction() {

@@ -15,21 +15,15 @@ public final class BoardTest {
     /** Promise 6. */
     private static void sizes() {
         HexArbiter arbiter = Check.loaded("board 4 swap; move b1");
-        sizesAre(arbiter, 4, 1, 0, 15, 1, 1, -1, 1, -1, 0);
+        CHECK.sizes("sizes", arbiter, 4, 1, 0, 15, 1, 1, -1, 1, -1, 0);
         arbiter.swap();
-        sizesAre(arbiter, 4, 0, 1, 15, 2, 0, -1, 0, -1, 1);
+        CHECK.sizes("sizes", arbiter, 4, 0, 1, 15, 2, 0, -1, 0, -1, 1);
         arbiter.giveUp();
-        sizesAre(arbiter, 4, 0, 1, 15, 2, 0, 1, 0, 0, 2);
+        CHECK.sizes("sizes", arbiter, 4, 0, 1, 15, 2, 0, 1, 0, 0, 2);
         arbiter.put(15, 0);
-        sizesAre(arbiter, 4, 1, 1, 14, 2, 0, 1, 0, 0, 3);
+        CHECK.sizes("sizes", arbiter, 4, 1, 1, 14, 2, 0, 1, 0, 0, 3);
         for (int what : new int[] {-1, 10, Integer.MIN_VALUE, Integer.MAX_VALUE}) {
             CHECK.illegal("size(" + what + ")", () -> arbiter.size(what));
-        }
-    }
-
-    private static void sizesAre(HexArbiter arbiter, int... due) {
-        for (int what = 0; what < due.length; what++) {
-            CHECK.same("size(" + what + ")", due[what], arbiter.size(what));
         }
     }
 

@@ -46,6 +46,23 @@ final class Check {
         }
     }
 
+    /** A text with an error, where the sign ^ stands: what load(), loadError() and loadStatement() answer. */
+    void textError(String marked, int kind, int statement) {
+        int place = marked.indexOf('^');
+        String text = marked.substring(0, place) + marked.substring(place + 1);
+        HexArbiter arbiter = new HexArbiter();
+        same(marked, -100 - place, load(arbiter, text));
+        same(marked + ": loadError", kind, arbiter.loadError());
+        same(marked + ": loadStatement", statement, arbiter.loadStatement());
+    }
+
+    /** size(0), size(1) and so on. */
+    void sizes(String name, HexArbiter arbiter, int... due) {
+        for (int what = 0; what < due.length; what++) {
+            same(name + ": size(" + what + ")", due[what], arbiter.size(what));
+        }
+    }
+
     /** Appends a text to the input of an arbiter. */
     static void append(HexArbiter arbiter, String text) {
         for (int from = 0; from < text.length(); from += 8) {
@@ -91,5 +108,37 @@ final class Check {
             text.append(stone == HexArbiter.RED ? 'r' : stone == HexArbiter.BLUE ? 'b' : '.');
         }
         return text.toString();
+    }
+
+    /** All that can be seen of a position and the output, without changing them. */
+    static String seen(HexArbiter arbiter) {
+        StringBuilder text = new StringBuilder(board(arbiter));
+        for (int what = 4; what <= 9; what++) {
+            text.append(' ').append(arbiter.size(what));
+        }
+        text.append(" moves");
+        for (int index = 0; index < arbiter.size(4); index++) {
+            text.append(' ').append(arbiter.moveAt(index));
+        }
+        return text.append(" output ").append(output(arbiter)).toString();
+    }
+
+    /** All that an arbiter keeps but the text in its input; it is used up by that. */
+    static String kept(HexArbiter arbiter) {
+        StringBuilder text = new StringBuilder(seen(arbiter));
+        text.append("\ninput ").append(arbiter.append(0L));
+        for (int left = arbiter.undo(); left >= 0; left = arbiter.undo()) {
+            text.append("\nundo ").append(left).append(": ").append(seen(arbiter));
+        }
+        for (int slot = 0; slot <= 1; slot++) {
+            text.append("\nslot ").append(arbiter.restoreSnapshot(slot)).append(": ").append(seen(arbiter));
+        }
+        return text.toString();
+    }
+
+    /** All that an arbiter keeps, also the text and what the latest load answered; it is used up by that. */
+    static String everything(HexArbiter arbiter) {
+        String results = arbiter.loadError() + " " + arbiter.loadStatement() + "\n";
+        return results + kept(arbiter) + "\nload " + arbiter.load() + ": " + seen(arbiter);
     }
 }

@@ -77,12 +77,12 @@ public final class OutputTest {
         CHECK.same("saveSnapshot(1)", 8, arbiter.saveSnapshot(1));
         Check.load(arbiter, "board 5; red a1; move b1 c1");
         CHECK.same("restoreSnapshot(0)", 8, arbiter.restoreSnapshot(0));
-        sizesAre(arbiter, 3, 1, 0, 8, 1, 1, -1, 1, -1, 0);
+        CHECK.sizes("sizes", arbiter, 3, 1, 0, 8, 1, 1, -1, 1, -1, 0);
         CHECK.same("the move", 1, arbiter.moveAt(0));
         CHECK.outside("the board is small again", () -> arbiter.cell(9));
         CHECK.same("the distance on it", 2, arbiter.distance(0));
         CHECK.same("restoreSnapshot(1)", 8, arbiter.restoreSnapshot(1));
-        sizesAre(arbiter, 3, 0, 1, 8, 2, 0, 1, 0, 0, 0);
+        CHECK.sizes("sizes", arbiter, 3, 0, 1, 8, 2, 0, 1, 0, 0, 0);
         CHECK.same("the second move", 3, arbiter.moveAt(1));
         arbiter.put(0, 0);
         arbiter.put(8, 0);
@@ -98,12 +98,6 @@ public final class OutputTest {
         for (int slot : new int[] {-1, 2, Integer.MIN_VALUE, Integer.MAX_VALUE}) {
             CHECK.illegal("saveSnapshot(" + slot + ")", () -> arbiter.saveSnapshot(slot));
             CHECK.illegal("restoreSnapshot(" + slot + ")", () -> arbiter.restoreSnapshot(slot));
-        }
-    }
-
-    private static void sizesAre(HexArbiter arbiter, int... due) {
-        for (int what = 0; what < due.length; what++) {
-            CHECK.same("size(" + what + ")", due[what], arbiter.size(what));
         }
     }
 

@@ -17,10 +17,7 @@ public final class StartAndLoadTest {
     /** Promise 1. */
     private static void newObject() {
         HexArbiter arbiter = new HexArbiter();
-        int[] sizes = {2, 0, 0, 4, 0, 0, -1, 0, -1, 0};
-        for (int what = 0; what < sizes.length; what++) {
-            CHECK.same("new: size(" + what + ")", sizes[what], arbiter.size(what));
-        }
+        CHECK.sizes("new", arbiter, 2, 0, 0, 4, 0, 0, -1, 0, -1, 0);
         CHECK.same("new: board", "../..", Check.board(arbiter));
         CHECK.same("new: output", -1, arbiter.outputByte(0));
         CHECK.same("new: undo", -1, arbiter.undo());
@@ -108,94 +105,94 @@ public final class StartAndLoadTest {
 
     /** Promises 3 to 5; the sign ^ stands where the error is. */
     private static void errorsOfKind1() {
-        wrong("^", 1, 0);
-        wrong("   ^", 1, 0);
-        wrong("^boar 3", 1, 0);
-        wrong("^boards 3", 1, 0);
-        wrong("^coard 3", 1, 0);
-        wrong("^boarb 3", 1, 0);
-        wrong("board 3; ^bed a1", 1, 1);
-        wrong("board 3; turn ^bed", 1, 1);
-        wrong("^Board 3", 1, 0);
-        wrong("^3", 1, 0);
-        wrong("^;board 3", 1, 0);
-        wrong("^red a1", 1, 0);
-        wrong("board^", 1, 0);
-        wrong("board ^", 1, 0);
-        wrong("board ^x", 1, 0);
-        wrong("board ^;", 1, 0);
-        wrong("board ^-3", 1, 0);
-        wrong("board 3 ^swop", 1, 0);
-        wrong("board 3 ^swaps", 1, 0);
-        wrong("board 3 swap ^swap", 1, 0);
-        wrong("board 3 ^4", 1, 0);
-        wrong("board 3 swap ^4", 1, 0);
-        wrong("board 3^.", 1, 0);
-        wrong("board 3^\u00e9", 1, 0);
-        wrong("board 3;^", 1, 1);
-        wrong("board 3; ^", 1, 1);
-        wrong("board 3;^;", 1, 1);
-        wrong("board 3;^\tred a1", 1, 1);
-        wrong("board 3; ^board 3", 1, 1);
-        wrong("board 3; ^swap", 1, 1);
-        wrong("board 3; ^reda1", 1, 1);
-        wrong("board 3; ^moves a1", 1, 1);
-        wrong("board 3; ^7", 1, 1);
-        wrong("board 3; red^", 1, 1);
-        wrong("board 3; red ^;", 1, 1);
-        wrong("board 3; red ^1", 1, 1);
-        wrong("board 3; red ^ab1", 1, 1);
-        wrong("board 3; red ^zz1", 1, 1);
-        wrong("board 3; red ^A1", 1, 1);
-        wrong("board 3; red a^", 1, 1);
-        wrong("board 3; red a ^", 1, 1);
-        wrong("board 3; red a^;", 1, 1);
-        wrong("board 3; red a ^b1", 1, 1);
-        wrong("board 3; red a1 ^2", 1, 1);
-        wrong("board 3; red a1^,b1", 1, 1);
-        wrong("board 3; red a1 ^blue b1", 1, 1);
-        wrong("board 3; red a1; blue b1;^", 1, 3);
-        wrong("board 3; turn^", 1, 1);
-        wrong("board 3; turn ^green", 1, 1);
-        wrong("board 3; turn ^1", 1, 1);
-        wrong("board 3; ^turnred", 1, 1);
-        wrong("board 3; turn red ^blue", 1, 1);
-        wrong("board 3; turn red ^1", 1, 1);
-        wrong("board 3; move^", 1, 1);
-        wrong("board 3; move ^red", 1, 1);
-        wrong("board 2; red a1 a2; move ^bb", 1, 2);
-        wrong("board 2; red a1 a2; move^", 1, 2);
-        wrong("board 2; red a1 a2; move ^1", 1, 2);
+        CHECK.textError("^", 1, 0);
+        CHECK.textError("   ^", 1, 0);
+        CHECK.textError("^boar 3", 1, 0);
+        CHECK.textError("^boards 3", 1, 0);
+        CHECK.textError("^coard 3", 1, 0);
+        CHECK.textError("^boarb 3", 1, 0);
+        CHECK.textError("board 3; ^bed a1", 1, 1);
+        CHECK.textError("board 3; turn ^bed", 1, 1);
+        CHECK.textError("^Board 3", 1, 0);
+        CHECK.textError("^3", 1, 0);
+        CHECK.textError("^;board 3", 1, 0);
+        CHECK.textError("^red a1", 1, 0);
+        CHECK.textError("board^", 1, 0);
+        CHECK.textError("board ^", 1, 0);
+        CHECK.textError("board ^x", 1, 0);
+        CHECK.textError("board ^;", 1, 0);
+        CHECK.textError("board ^-3", 1, 0);
+        CHECK.textError("board 3 ^swop", 1, 0);
+        CHECK.textError("board 3 ^swaps", 1, 0);
+        CHECK.textError("board 3 swap ^swap", 1, 0);
+        CHECK.textError("board 3 ^4", 1, 0);
+        CHECK.textError("board 3 swap ^4", 1, 0);
+        CHECK.textError("board 3^.", 1, 0);
+        CHECK.textError("board 3^\u00e9", 1, 0);
+        CHECK.textError("board 3;^", 1, 1);
+        CHECK.textError("board 3; ^", 1, 1);
+        CHECK.textError("board 3;^;", 1, 1);
+        CHECK.textError("board 3;^\tred a1", 1, 1);
+        CHECK.textError("board 3; ^board 3", 1, 1);
+        CHECK.textError("board 3; ^swap", 1, 1);
+        CHECK.textError("board 3; ^reda1", 1, 1);
+        CHECK.textError("board 3; ^moves a1", 1, 1);
+        CHECK.textError("board 3; ^7", 1, 1);
+        CHECK.textError("board 3; red^", 1, 1);
+        CHECK.textError("board 3; red ^;", 1, 1);
+        CHECK.textError("board 3; red ^1", 1, 1);
+        CHECK.textError("board 3; red ^ab1", 1, 1);
+        CHECK.textError("board 3; red ^zz1", 1, 1);
+        CHECK.textError("board 3; red ^A1", 1, 1);
+        CHECK.textError("board 3; red a^", 1, 1);
+        CHECK.textError("board 3; red a ^", 1, 1);
+        CHECK.textError("board 3; red a^;", 1, 1);
+        CHECK.textError("board 3; red a ^b1", 1, 1);
+        CHECK.textError("board 3; red a1 ^2", 1, 1);
+        CHECK.textError("board 3; red a1^,b1", 1, 1);
+        CHECK.textError("board 3; red a1 ^blue b1", 1, 1);
+        CHECK.textError("board 3; red a1; blue b1;^", 1, 3);
+        CHECK.textError("board 3; turn^", 1, 1);
+        CHECK.textError("board 3; turn ^green", 1, 1);
+        CHECK.textError("board 3; turn ^1", 1, 1);
+        CHECK.textError("board 3; ^turnred", 1, 1);
+        CHECK.textError("board 3; turn red ^blue", 1, 1);
+        CHECK.textError("board 3; turn red ^1", 1, 1);
+        CHECK.textError("board 3; move^", 1, 1);
+        CHECK.textError("board 3; move ^red", 1, 1);
+        CHECK.textError("board 2; red a1 a2; move ^bb", 1, 2);
+        CHECK.textError("board 2; red a1 a2; move^", 1, 2);
+        CHECK.textError("board 2; red a1 a2; move ^1", 1, 2);
     }
 
     private static void otherErrors() {
-        wrong("board ^1", 2, 0);
-        wrong("board ^0", 2, 0);
-        wrong("board ^10", 2, 0);
-        wrong("board ^4294967299", 2, 0);
-        wrong("board ^99999999999999999999999999 x", 2, 0);
-        wrong("board 3; red ^d1", 2, 1);
-        wrong("board 3; red ^z", 2, 1);
-        wrong("board 3; red a^0", 2, 1);
-        wrong("board 3; red a ^4", 2, 1);
-        wrong("board 3; red a1 b^18446744073709551617", 2, 1);
-        wrong("board 3; red a1; move a^9", 2, 2);
-        wrong("board 3; red a1; move c3 ^j1", 2, 2);
-        wrong("board 3; red a1 ^a1", 3, 1);
-        wrong("board 3; red a1; red ^a1", 3, 2);
-        wrong("board 3; red a1; blue b1 ^a1 x", 3, 2);
-        wrong("board 3; move a1 b1 ^a 1", 3, 1);
-        wrong("board 3; move b2; red ^b2", 3, 2);
-        wrong("board 9;blue " + everyCell() + "^e5", 3, 1);
-        wrong("board 9;blue " + everyCell() + ";move ^e5", 4, 2);
-        wrong("board 2; red a1 a2; move ^b1", 4, 2);
-        wrong("board 2; blue a1 b1; move ^b2", 4, 2);
-        wrong("board 2; move a1 b1 a2 ^b2", 4, 1);
+        CHECK.textError("board ^1", 2, 0);
+        CHECK.textError("board ^0", 2, 0);
+        CHECK.textError("board ^10", 2, 0);
+        CHECK.textError("board ^4294967299", 2, 0);
+        CHECK.textError("board ^99999999999999999999999999 x", 2, 0);
+        CHECK.textError("board 3; red ^d1", 2, 1);
+        CHECK.textError("board 3; red ^z", 2, 1);
+        CHECK.textError("board 3; red a^0", 2, 1);
+        CHECK.textError("board 3; red a ^4", 2, 1);
+        CHECK.textError("board 3; red a1 b^18446744073709551617", 2, 1);
+        CHECK.textError("board 3; red a1; move a^9", 2, 2);
+        CHECK.textError("board 3; red a1; move c3 ^j1", 2, 2);
+        CHECK.textError("board 3; red a1 ^a1", 3, 1);
+        CHECK.textError("board 3; red a1; red ^a1", 3, 2);
+        CHECK.textError("board 3; red a1; blue b1 ^a1 x", 3, 2);
+        CHECK.textError("board 3; move a1 b1 ^a 1", 3, 1);
+        CHECK.textError("board 3; move b2; red ^b2", 3, 2);
+        CHECK.textError("board 9;blue " + everyCell() + "^e5", 3, 1);
+        CHECK.textError("board 9;blue " + everyCell() + ";move ^e5", 4, 2);
+        CHECK.textError("board 2; red a1 a2; move ^b1", 4, 2);
+        CHECK.textError("board 2; blue a1 b1; move ^b2", 4, 2);
+        CHECK.textError("board 2; move a1 b1 a2 ^b2", 4, 1);
         // an error of the move itself is found ahead of one of its number, and of its cell
-        wrong("board 2; red a1 a2; move ^b9", 4, 2);
-        wrong("board 2; red a1 a2; move ^b", 4, 2);
-        wrong("board 2; red a1 a2; move ^a1", 4, 2);
-        wrong("board 2; red a1 a2; move ^c1", 2, 2);
+        CHECK.textError("board 2; red a1 a2; move ^b9", 4, 2);
+        CHECK.textError("board 2; red a1 a2; move ^b", 4, 2);
+        CHECK.textError("board 2; red a1 a2; move ^a1", 4, 2);
+        CHECK.textError("board 2; red a1 a2; move ^c1", 2, 2);
     }
 
     private static String everyCell() {
@@ -204,15 +201,6 @@ public final class StartAndLoadTest {
             cells.append((char) ('a' + cell % 9)).append(1 + cell / 9);
         }
         return cells.toString();
-    }
-
-    private static void wrong(String marked, int kind, int statement) {
-        int place = marked.indexOf('^');
-        String text = marked.substring(0, place) + marked.substring(place + 1);
-        HexArbiter arbiter = new HexArbiter();
-        CHECK.same(marked, -100 - place, Check.load(arbiter, text));
-        CHECK.same(marked + ": loadError", kind, arbiter.loadError());
-        CHECK.same(marked + ": loadStatement", statement, arbiter.loadStatement());
     }
 
     private static void whatAnErrorLeaves() {
@@ -245,10 +233,7 @@ public final class StartAndLoadTest {
         CHECK.same("load anew", 3, Check.load(arbiter, "board 3"));
         CHECK.same("loadError anew", 0, arbiter.loadError());
         CHECK.same("loadStatement anew", -1, arbiter.loadStatement());
-        int[] sizes = {3, 0, 0, 9, 0, 0, -1, 0, -1, 0};
-        for (int what = 0; what < sizes.length; what++) {
-            CHECK.same("load: size(" + what + ")", sizes[what], arbiter.size(what));
-        }
+        CHECK.sizes("load anew", arbiter, 3, 0, 0, 9, 0, 0, -1, 0, -1, 0);
         CHECK.same("the board is new", ".../.../...", Check.board(arbiter));
         CHECK.same("there is nothing to undo", -1, arbiter.undo());
         CHECK.same("the output stays", "c2", Check.output(arbiter));
