@@ -1422,7 +1422,8 @@ public final class HexArbiter {
             if (left == 0 || depth >= LAST_CELLS) {
                 return owner(red);
             }
-            for (int bit = 1; bit <= left; bit <<= 1) {
+            for (int index = 0; index < count; index++) {
+                int bit = 1 << index;
                 if ((left & bit) != 0) {
                     int next = turn == RED ? red | bit : red;
                     if (best(left ^ bit, next, otherSide(turn), depth + 1) == turn) {
