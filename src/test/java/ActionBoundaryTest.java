@@ -538,7 +538,7 @@ public final class ActionBoundaryTest {
     private static void undoAndActAgain() {
         HexArbiter arbiter = new HexArbiter();
         List<String> boards = new ArrayList<>();
-        for (int done = 0; done < 40; done++) {
+        for (int done = 0; done < 35; done++) {
             boards.add(Check.board(arbiter));
             if (boards.size() > 8) {
                 boards.remove(0);
