@@ -22,6 +22,14 @@ public final class RandomRunsTest {
         "put c t", "put c t", "put c t", "setTurn s", "turnOver", "playForced m81", "forcedWinner",
         "forcedRow", "fullness", "writeRow r", "writeCell c", "outputByte i4", "undo", "undo",
         "saveSnapshot w1", "restoreSnapshot w1", "loadError", "loadStatement", "append l", "load"};
+    // a game that goes on for all the calls of an object, so that moves and actions pile up to their limits
+    private static final String[] GAME = {
+        "move f", "move f", "move f", "move f", "move f", "move f", "move f", "move f", "move f", "move f",
+        "move f", "move f", "move f", "move f", "move f", "put o n", "put o n", "put o n", "put o n", "put o n",
+        "put o n", "playForced m81", "playForced m81", "setTurn s", "turnOver", "undo", "swap", "move c",
+        "forced", "forcedRow", "forcedWinner", "moveAt i200", "size w9"};
+    private static final int CALLS_OF_AN_OBJECT = 512;
+    private static final int CALLS_OF_A_TEXT = 15;
 
     private final Check check = new Check();
     private final Random random;
@@ -42,6 +50,9 @@ public final class RandomRunsTest {
         }
         for (int run = 0; run < runs * 20; run++) {
             test.texts();
+        }
+        for (int run = 0; run < runs; run += 5) {
+            test.game();
         }
         test.check.end("RandomRunsTest");
     }
@@ -108,6 +119,21 @@ public final class RandomRunsTest {
         compare("size", 4);
         compare("size", 5);
         check.same("board " + trace, boardOf(reference), Check.board(arbiter));
+    }
+
+    /** One object for as many calls as are promised, most of them moves and what makes room for them. */
+    private void game() throws Exception {
+        arbiter = new HexArbiter();
+        reference = new Reference();
+        trace.setLength(0);
+        enter("board " + (3 + random.nextInt(7)) + (random.nextBoolean() ? " swap" : ""));
+        for (int done = CALLS_OF_A_TEXT; done < CALLS_OF_AN_OBJECT; done++) {
+            if (reference.size(6) == HexArbiter.NONE) {
+                call(GAME[random.nextInt(GAME.length)]);
+            } else {
+                call(random.nextInt(20) == 0 ? "undo" : "put o n");
+            }
+        }
     }
 
     private static String boardOf(Reference reference) {
@@ -205,6 +231,9 @@ public final class RandomRunsTest {
         int size = reference.size(0);
         switch (kind.charAt(0)) {
             case 'b': return random.nextBoolean();
+            case 'f': return cellFrom(random.nextInt(size * size), true);
+            case 'o': return cellFrom(random.nextInt(size * size), false);
+            case 'n': return HexArbiter.NONE;
             case 'c': return odd ? oddNumber(size * size) : random.nextInt(size * size);
             case 'r': return odd ? oddNumber(size) : random.nextInt(size);
             case 's': return odd ? oddNumber(2) : random.nextInt(2);
@@ -215,6 +244,18 @@ public final class RandomRunsTest {
             case 'x': return odd ? -1 - random.nextInt(5) : random.nextInt() >>> 1;
             default: return random.nextLong() & (random.nextBoolean() ? 0xff00ff00ffffL : 0x7f7f00L);
         }
+    }
+
+    /** The first cell from this one on that is free, or that is not; this one itself if there is none. */
+    private int cellFrom(int start, boolean free) {
+        int cells = reference.size(0) * reference.size(0);
+        for (int step = 0; step < cells; step++) {
+            int cell = (start + step) % cells;
+            if ((reference.cell(cell) == HexArbiter.NONE) == free) {
+                return cell;
+            }
+        }
+        return start;
     }
 
     private int oddNumber(int bound) {
